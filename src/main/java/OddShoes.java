@@ -588,7 +588,7 @@ public final class OddShoes {
     }
 
     private static boolean isSize(int size) {
-        return isWithin(size, 0, SIZES - 1);
+        return size >= 0 && size < SIZES;
     }
 
     private static boolean isIn(int bits, int number) {
@@ -1092,18 +1092,19 @@ public final class OddShoes {
             int marks = pad.untoldCount();
             int mark = 0;
             for (int step = 0; step < pad.stepCount(); step++) {
+                int deed = pad.deedOf(step);
                 int who = pad.whoOf(step);
                 if (who == UNTOLD) {
                     who = guessedFor(mark, marks, guess);
                     mark++;
                 }
                 badStep = step;
-                why = after.whyNot(who, pad.deedOf(step));
+                why = after.whyNot(who, deed);
                 if (why != FINE) {
                     return false;
                 }
-                after.take(who, pad.deedOf(step));
-                if (isWalk(pad.deedOf(step)) && outStep == NONE) {
+                after.take(who, deed);
+                if (isWalk(deed) && outStep == NONE) {
                     lookAtShoes(step, who, lasts);
                 }
             }

@@ -110,6 +110,8 @@ public final class TwinTest {
                 changeRoads();
             } else if (kind == 2 && random.nextInt(40) == 0) {
                 settle();
+            } else if (kind == 3) {
+                askOfShoes(random.nextInt(4));
             } else {
                 askAny();
             }
@@ -126,7 +128,8 @@ public final class TwinTest {
         for (int t = 0; t < n; t++) {
             call("shop", t, random.nextInt(3), random.nextInt(21) / (1 + random.nextInt(4)));
             for (int s = 0; s < 3; s++) {
-                call("stock", t, random.nextInt(5), random.nextInt(10));
+                int size = random.nextInt(4) == 0 ? random.nextInt(5) : 1 + random.nextInt(2);
+                call("stock", t, size, random.nextInt(10));
             }
         }
         for (int p = 0; p < 4; p++) {
@@ -202,6 +205,20 @@ public final class TwinTest {
         if (random.nextInt(3) > 0) {
             call("done");
             call("state", person, random.nextInt(7));
+        }
+    }
+
+    private void askOfShoes(int person) throws Exception {
+        for (int what = 0; what < 4; what++) {
+            call("shod", person, what);
+        }
+        int tenths = random.nextInt(11);
+        call("shut", person, tenths, 0);
+        call("shut", person, tenths, 1);
+        int set = random.nextInt(1 << twin.w.n);
+        for (int i = -1; i < 4; i++) {
+            call("round", person, set, i);
+            call("way", person, set % twin.w.n, i);
         }
     }
 
