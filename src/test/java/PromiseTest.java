@@ -42,6 +42,7 @@ public final class PromiseTest {
                 towns(1)=OUTSIDE; towns(7)=OUTSIDE; towns(-1)=OUTSIDE; told(1)=4; told(2)=1
                 towns(2)=4; told(1)=2; told(2)=0; told(5)=0; told(11)=0; told(21)=0; told(102)=0
                 told(111)=0; told(121)=0; told(12)=OUTSIDE
+                person(0,1,2,2,20)=1; shop(1,1,1)=0; day A+; judge(1)=4; leave(0)=0; day Ad
                 # what no word of the promise names stays: the pad, toll, K, images
                 told(0)=2; told(3)=7; told(4)=5; fault()=1; restore(0)=1; told(1)=4; fault()=NONE
                 towns(6)=4; far(5,5,0)=0; road(5,4,1,0)=0; road(6,4,1,0)=UNKNOWN
@@ -143,6 +144,7 @@ public final class PromiseTest {
                 trodden(1,2,0)=6; trodden(2,1,1)=0; trodden(1,2,2)=6
                 leave(0)=0; trodden(1,2,0)=6; image(1)=1; road(2,1,3,0)=3; trodden(1,2,0)=0; trodden(1,2,2)=0; trodden(0,1,2)=8
                 restore(1)=1; trodden(1,2,0)=6; road(1,2,0,0)=3; trodden(1,2,0)=STATE; road(1,2,3,0)=0; trodden(1,2,0)=0
+                stock(1,2,1)=0; person(0,2,2,2,99)=1; day A+AbA+Ac; done()=4; trodden(1,2,0)=3; trodden(1,2,1)=6; trodden(1,2,2)=3
                 trodden(0,0,0)=UNKNOWN; trodden(4,0,3)=UNKNOWN; trodden(0,-1,0)=UNKNOWN
                 trodden(0,3,3)=OUTSIDE; trodden(0,3,-1)=OUTSIDE; trodden(0,3,0)=STATE
                 """);
@@ -156,7 +158,8 @@ public final class PromiseTest {
                 givesOut(99,0)=NONE; done()=8
                 # worn above D before: it gives out behind the next walk of who wears it, not by another step
                 day B-A-; givesOut(1,0)=NONE; day B-BcAa; givesOut(1,0)=2; givesOut(1,1)=0; givesOut(1,2)=0
-                day A-; done()=1; stock(2,2,9)=1; day AcA+Ab; givesOut(2,0)=2; givesOut(2,1)=0; givesOut(2,2)=1
+                day A-; done()=1; stock(2,2,9)=1; day AcA+Ab; givesOut(2,0)=2; givesOut(2,1)=0; givesOut(2,2)=1; givesOut(3,0)=NONE
+                day AcA+AbA+Aa; givesOut(4,0)=4; givesOut(4,2)=1; givesOut(2,2)=1; givesOut(1,0)=2; day A+AcA+Ab; givesOut(5,2)=0
                 givesOut(0,0)=OUTSIDE; givesOut(100,0)=OUTSIDE; givesOut(1,3)=OUTSIDE; givesOut(1,-1)=OUTSIDE
                 day A; givesOut(0,0)=OUTSIDE; givesOut(1,0)=NO; day ?a; givesOut(1,0)=STATE; day Ad; givesOut(1,0)=NO
                 """);
@@ -195,6 +198,9 @@ public final class PromiseTest {
                 person(0,2,2,2,20)=1; shod(0,0)=7; shod(0,1)=2; shod(0,2)=2; shod(0,3)=3
                 day A+; done()=1; shod(0,0)=2; shod(0,2)=3; shod(0,3)=NONE
                 day AdA+; done()=2; shod(0,0)=1; shod(0,1)=1; shod(0,2)=NONE; shod(0,3)=NONE; day Ac; done()=1; shod(0,0)=0; shod(0,1)=0
+                # each foot has its own size
+                stock(3,1,1)=0; stock(2,4,1)=0; person(0,2,1,4,20)=1; shod(0,1)=2; stock(3,1,0)=1; shod(0,1)=NONE; stock(3,1,1)=0
+                stock(2,4,0)=1; shod(0,1)=NONE; stock(2,4,1)=0; day A+AdA+; done()=3; told(304)=0; told(401)=0; track(1,4,2)=1; track(4,1,2)=0
                 shod(1,4)=UNKNOWN; shod(-1,0)=UNKNOWN; shod(4,0)=UNKNOWN; shod(0,4)=OUTSIDE; shod(0,-1)=OUTSIDE
                 """);
         SCRIPT.play("20 shod: of several the first by towns", """
@@ -239,6 +245,9 @@ public final class PromiseTest {
         SCRIPT.play("22 together: one both is dearer than two who are near", """
                 road(0,1,1,0)=0; road(0,2,1,0)=0; person(0,0,0,0,0)=1; person(3,0,0,0,0)=2
                 together(9,1,2,0)=4; together(9,1,2,1)=0; together(9,1,2,2)=0; road(1,2,1,0)=0; together(9,1,2,0)=3; together(8,1,2,1)=3
+                # roads for those alone who limp are of no use to them
+                road(1,2,1,1)=1; together(9,1,2,0)=4; road(0,1,1,1)=1; together(9,1,0,0)=NONE; together(9,0,1,0)=NONE
+                person(3,1,0,0,0)=2; together(9,1,2,0)=2; together(9,1,2,1)=3; together(9,1,2,2)=0; road(1,2,5,0)=1; together(8,1,2,0)=10
                 """);
     }
 
@@ -278,6 +287,7 @@ public final class PromiseTest {
                 person(3,0,2,4,0)=2; track(6,6,2)=9; track(5,5,0)=9; track(5,5,1)=0; track(2,6,2)=0
                 day AbA+; done()=2; track(2,5,1)=1; track(2,5,0)=0; track(2,6,2)=1; track(6,5,2)=9; track(5,6,2)=8
                 track(3,5,2)=0; track(2,2,2)=0; day AcA+; done()=2; track(2,2,1)=1; set(1,9)=3; track(2,2,1)=0; track(2,2,0)=1
+                person(1,0,0,0,0)=3; shop(0,1,0)=0; stock(0,0,1)=0; day B+; done()=1; track(0,5,1)=2; track(0,0,2)=0; track(5,0,2)=0
                 track(7,0,0)=OUTSIDE; track(-1,0,0)=OUTSIDE; track(0,7,0)=OUTSIDE; track(0,-1,0)=OUTSIDE; track(0,0,3)=OUTSIDE; track(0,0,-1)=OUTSIDE
                 """);
         SCRIPT.play("28 seen, 29 forget", """
@@ -288,6 +298,7 @@ public final class PromiseTest {
         SCRIPT.play("31 spy", """
                 spy(0)=0; spy(1)=0; person(0,0,4,3,0)=1; spy(0)=43; spy(1)=1; person(1,0,3,4,0)=2; spy(0)=34; spy(1)=1
                 person(2,0,4,3,0)=3; spy(0)=43; spy(1)=2; person(3,0,3,4,0)=4; spy(0)=34; spy(1)=2; leave(1)=3; spy(0)=43
+                person(1,0,0,0,0)=4; leave(2)=3; spy(0)=0; spy(1)=1; person(2,0,0,0,0)=4; spy(0)=0; spy(1)=2
                 spy(2)=OUTSIDE; spy(-1)=OUTSIDE
                 """);
     }
@@ -315,13 +326,18 @@ public final class PromiseTest {
                 day AbA+AcA+; done()=4; shut(0,9,0)=1; shut(0,9,1)=1; road(0,1,2,2)=2; shut(0,9,0)=0; shut(0,9,1)=1
                 """);
         SCRIPT.play("33 year", ROW + """
-                # x is 74, 5624, 28632, 50299, 36790: C to c, A to c, A to c, D, C
+                # x is 74, 5624, 28652, 51790, 17641: C to c, A to c, A to d, C to d, B to c
                 year(0,1,0)=0; year(0,5,0)=0; year(0,5,1)=0; year(0,5,2)=0
-                # x is 149, 11249, 57245: B to b, B to a, B to d
+                road(0,3,7,0)=0; year(0,2,0)=0; year(0,3,0)=7; year(0,5,0)=7; road(0,3,0,0)=7
+                # x is 149, 11249, 57305: B to b, B to a, B to c
                 person(1,0,2,2,4)=2; year(1,1,0)=2; year(1,1,1)=1; year(1,1,2)=1; year(1,2,0)=4; year(1,3,0)=4; year(1,2,1)=1
                 state(1,0)=0; told(202)=1; year(1,2,2)=1; shop(0,1,0)=0; stock(0,2,1)=0; road(0,1,2,2)=2; year(1,1,0)=2; year(1,2,0)=2; year(1,2,2)=1
                 # it buys where it is, if it could not walk
                 road(0,1,0,0)=2; year(1,1,0)=0; year(1,1,1)=1; year(1,1,2)=1; year(1,3,1)=1
+                # two buy: all who have one shoe limp, who has both as new does not
+                person(2,0,2,2,99)=3; stock(0,2,9)=1; year(0,2,1)=2; year(0,2,2)=2; shop(2,2,0)=2; stock(2,2,9)=2; road(0,2,4,1)=0; year(0,3,1)=2
+                person(2,2,2,2,99)=3; set(1,9)=3; day C+; done()=1; road(0,2,4,0)=4; shop(2,1,0)=2; year(0,1,1)=1; year(0,1,2)=0
+                leave(2)=2; stock(0,2,1)=9; road(0,2,0,0)=4    # one shoe that can be bought, the edges of seed and turns
                 year(10000,1,0)=OUTSIDE; year(-1,1,0)=OUTSIDE; year(0,0,0)=OUTSIDE; year(0,100,0)=OUTSIDE; year(0,1,3)=OUTSIDE; year(0,1,-1)=OUTSIDE
                 year(9999,99,1)=1
                 """);
@@ -339,6 +355,7 @@ public final class PromiseTest {
                 told(21)=20; told(202)=7; trodden(1,2,0)=3; told(0)=2
                 # an image stays as it was kept, whatever comes behind
                 towns(2)=4; restore(0)=1; told(1)=4; told(2)=1; leave(0)=0; restore(0)=1; told(2)=1; image(0)=1; restore(0)=1
+                person(0,3,1,1,1)=1; restore(0)=1; shod(0,1)=10; round(0,2,-1)=4; track(5,5,2)=1; spy(0)=22
                 """);
     }
 
