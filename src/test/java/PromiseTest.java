@@ -1,10 +1,6 @@
 /** For each promise of the document: ordinary calls, the edges it names, each refusal in order. */
 public final class PromiseTest {
-    /** Towns a to d in a row, 2 and 3 miles, then none; lefts at b, rights at c; A at a. */
-    private static final String ROW = """
-            road(0,1,2,0)=0; road(1,2,3,0)=0; shop(1,1,4)=0; shop(2,2,5)=0
-            stock(1,2,1)=0; stock(2,2,2)=0; person(0,0,2,2,20)=1
-            """;
+    private static final String ROW = Script.ROW;
 
     private static final Script SCRIPT = new Script();
 

@@ -4,15 +4,26 @@ import java.util.Arrays;
 
 /**
  * Plays runs of calls that are written as text, each on a new object: "road(0,1,2,0) = 0", several
- * behind one another with ';'. "day Ab A+" wipes the pad and says these signs (no spaces).
+ * behind one another with ';'. "day AbA+" wipes the pad and says these signs (no spaces).
  * Behind '#' a line says why.
  */
 final class Script {
+    /** Towns a to d in a row, 2 and 3 miles, then none; lefts at b, rights at c; A at a. */
+    static final String ROW = """
+            road(0,1,2,0)=0; road(1,2,3,0)=0; shop(1,1,4)=0; shop(2,2,5)=0
+            stock(1,2,1)=0; stock(2,2,2)=0; person(0,0,2,2,20)=1
+            """;
+
+    /** The document promises nothing of an object behind so many calls. */
+    private static final int MOST_CALLS = 512;
+
     private int wrong = 0;
     private int asked = 0;
+    private int calls = 0;
 
     void play(String title, String text) {
         OddShoes shoes = new OddShoes();
+        calls = 0;
         for (String line : text.split("\n")) {
             String calls = line.contains("#") ? line.substring(0, line.indexOf('#')) : line;
             for (String call : calls.split(";")) {
@@ -21,6 +32,7 @@ final class Script {
                 }
             }
         }
+        expect(title + " takes " + calls + " calls", calls <= MOST_CALLS);
     }
 
     /** Ends the program: with 1, if some answer was not as due. */
@@ -40,6 +52,7 @@ final class Script {
     private void playCall(String title, OddShoes shoes, String call) {
         if (call.startsWith("day")) {
             shoes.wipe();
+            calls++;
             int count = 0;
             for (char sign : call.substring(3).replace(" ", "").toCharArray()) {
                 count++;
@@ -60,7 +73,7 @@ final class Script {
         check(title, call, ask(shoes, name, arguments), numberOf(due));
     }
 
-    private static long ask(OddShoes shoes, String name, Object[] arguments) {
+    static long ask(OddShoes shoes, String name, Object[] arguments) {
         Class<?>[] types = new Class<?>[arguments.length];
         Arrays.fill(types, int.class);
         try {
@@ -89,6 +102,7 @@ final class Script {
 
     private void check(String title, String call, long got, long due) {
         asked++;
+        calls++;
         if (got != due) {
             wrong++;
             System.out.println(title + ": " + call + " answered " + got);
