@@ -164,6 +164,13 @@ public final class EdgesOfTownsTest {
                 road(0,1,2,0)=0; road(1,2,2,0)=0; person(0,0,0,0,0)=1; day AbAc; done()=2; road(0,1,2,0)=2; trodden(0,1,2)=0; trodden(1,2,2)=4
                 road(2,1,2,1)=2; trodden(1,2,2)=0
                 """);
+        SCRIPT.play("3 road: told anew it is not TRODDEN by any foot", ROW + "day AbA+AcA+Ab; done()=5; trodden(1,2,0)=6; trodden(1,2,1)=3; trodden(1,2,2)=3; road(1,2,3,0)=3; trodden(1,2,0)=0; trodden(1,2,1)=0; trodden(1,2,2)=0");
+        SCRIPT.play("3 road: told anew, the ROADS before and behind it stay TRODDEN, by each foot", """
+                road(0,1,1,0)=0; road(0,2,1,0)=0; road(0,3,1,0)=0; shop(0,1,0)=0; stock(0,0,1)=0; person(0,0,0,0,0)=1; day AbAaAcAaA+AcAaAdAa; done()=9; image(0)=1
+                trodden(0,1,2)=4; trodden(0,2,0)=2; trodden(0,2,2)=6; trodden(0,3,0)=2; trodden(0,3,2)=2
+                road(0,2,1,0)=1; trodden(0,1,2)=4; trodden(0,2,0)=0; trodden(0,2,2)=0; trodden(0,3,0)=2; trodden(0,3,2)=2
+                restore(0)=1; road(0,1,1,0)=1; trodden(0,2,0)=2; trodden(0,2,2)=6; restore(0)=1; road(0,3,1,0)=1; trodden(0,2,0)=2; trodden(0,2,2)=6; trodden(0,1,2)=4
+                """);
         SCRIPT.play("3 road: refused, it stays TRODDEN", "road(0,1,2,0)=0; person(0,0,0,0,0)=1; day Ab; done()=1; road(0,1,10,0)=OUTSIDE; road(0,1,2,3)=OUTSIDE; trodden(0,1,2)=4; told(111)=2");
         SCRIPT.play("3 road: a RULE is kept where there is no ROAD", "road(0,1,0,2)=0; told(111)=0; told(121)=2; far(0,1,0)=NONE; far(0,1,1)=NONE; road(0,1,1,0)=0; told(121)=0");
     }

@@ -109,6 +109,7 @@ public final class EdgesOfTracksTest {
                 shut(0,3,0)=946729; shut(0,3,1)=1000000; shut(0,5,0)=49; shut(0,5,1)=64; shut(0,0,0)=1; shut(0,0,1)=1; shut(0,10,0)=0; shut(0,10,1)=1
                 """);
         SCRIPT.play("32 shut: in lowest terms: SHOPS that are of no use count for nothing", ROW + "shop(0,1,20)=0; shop(3,2,1)=0; shut(0,3,0)=49; shut(0,3,1)=100; shut(0,5,0)=1; shut(0,5,1)=4; shut(0,4,0)=9; shut(0,4,1)=25");
+        SCRIPT.play("32 shut: in lowest terms, by 2 alone and by 5 alone", ROW + "day AbA+; done()=2; shop(1,0,4)=1; shut(0,2,0)=4; shut(0,2,1)=5; shut(0,8,0)=1; shut(0,8,1)=5; shut(0,5,0)=1; shut(0,5,1)=2; shut(0,1,0)=9; shut(0,1,1)=10");
         SCRIPT.play("32 shut: either of two for one side", ROW + "shop(0,1,4)=0; stock(0,2,1)=0; shut(0,5,0)=3; shut(0,5,1)=8; shut(0,1,0)=891; shut(0,1,1)=1000; stock(0,2,0)=1; shut(0,1,0)=81; shut(0,1,1)=100");
     }
 
@@ -132,6 +133,7 @@ public final class EdgesOfTracksTest {
         SCRIPT.play("33 year: then it buys there, if that can be", "person(0,0,0,0,5)=1; road(0,1,1,0)=0; shop(1,1,5)=0; stock(1,0,1)=0; year(14,1,1)=1; year(14,1,2)=1; shop(1,1,6)=1; year(14,1,1)=0; year(14,1,2)=0; shop(1,1,5)=1; stock(1,0,0)=1; year(14,1,1)=0");
         SCRIPT.play("33 year: it buys where it is, if it could not walk", "person(0,0,0,0,5)=1; shop(0,2,5)=0; shop(1,1,0)=0; stock(0,0,1)=0; stock(1,0,1)=0; year(14,1,1)=1; year(14,1,0)=0; year(14,1,2)=1; road(0,1,1,0)=0; stock(1,0,0)=1; year(14,1,0)=1; year(14,1,1)=0");
         SCRIPT.play("33 year: who is not there does nothing", "road(0,1,1,0)=0; shop(1,1,0)=0; stock(1,0,9)=0; shop(0,1,0)=0; stock(0,0,9)=0; year(14,99,0)=0; year(14,99,1)=0; person(1,2,0,0,0)=1; year(14,1,1)=0; year(14,1,2)=0");
+        SCRIPT.play("33 year: who has bought the other shoe LIMPS no more, K or more apart", "person(0,0,0,0,0)=1; shop(0,1,0)=0; shop(1,2,0)=0; stock(0,0,1)=0; stock(1,0,1)=0; road(0,1,3,0)=0; day A+; done()=1; year(0,1,2)=1; year(14,1,0)=3; year(14,1,1)=1; year(14,1,2)=1; set(1,4)=3; year(14,1,2)=0; year(14,1,1)=1");
         SCRIPT.play("33 year: how many LIMP then, all four", FOUR + "shop(0,1,0)=0; stock(0,0,1)=0; stock(0,1,1)=0; stock(0,2,1)=0; stock(0,4,1)=0; year(0,1,2)=1; year(0,99,1)=4; year(0,99,2)=4; leave(3)=3; year(0,99,2)=3");
     }
 

@@ -54,6 +54,7 @@ public final class EdgesOfWaysTest {
         SCRIPT.play("19 way: from where it is, not from HOME", ROW + "day AbAc; done()=2; way(0,0,-1)=5; way(0,0,0)=2; way(0,0,1)=1; way(0,0,2)=0; way(0,0,3)=NONE");
         SCRIPT.play("19 way: as it LIMPS now", ROW + "road(1,3,1,1)=0; road(2,3,1,0)=0; way(0,3,-1)=6; way(0,3,2)=2; day AbA+; done()=2; way(0,3,-1)=1; way(0,3,1)=3; day A-; done()=1; way(0,3,-1)=4; way(0,3,1)=2");
         SCRIPT.play("19 way: who is not there, which TOWN there is not", ROW + "way(1,0,0)=UNKNOWN; way(-1,0,0)=UNKNOWN; way(4,0,0)=UNKNOWN; way(0,4,0)=UNKNOWN; way(0,-1,-1)=UNKNOWN; way(0,2147483647,0)=UNKNOWN; way(1,4,-2)=UNKNOWN");
+        SCRIPT.play("19 way: over a, the first of all TOWNS", "person(0,1,0,0,0)=1; road(1,0,1,0)=0; road(0,2,1,0)=0; road(1,2,9,0)=0; way(0,2,-1)=2; way(0,2,0)=1; way(0,2,1)=0; way(0,2,2)=2; way(0,2,3)=NONE");
         SCRIPT.play("19 way: of each PERSON", "road(0,1,1,0)=0; person(3,1,0,0,0)=1; way(3,0,-1)=1; way(3,0,0)=1; way(3,0,1)=0; way(0,0,0)=UNKNOWN");
     }
 
@@ -80,6 +81,7 @@ public final class EdgesOfWaysTest {
         SCRIPT.play("20 shod: it has both, and goes HOME", ROW + "day AbA+AcA+; done()=4; shod(0,0)=5; shod(0,1)=5; shod(0,2)=NONE; shod(0,3)=NONE; set(0,0)=1; shod(0,0)=0; shod(0,1)=5; road(0,1,0,0)=2; shod(0,0)=NONE; shod(0,1)=NONE");
         SCRIPT.play("20 shod: it has one: the second TOWN is NONE", ROW + "day AbA+; done()=2; shod(0,0)=13; shod(0,1)=8; shod(0,2)=2; shod(0,3)=NONE; day A-AcA+; done()=3; stock(1,2,1)=0; shod(0,0)=9; shod(0,1)=5; shod(0,2)=1; shod(0,3)=NONE");
         SCRIPT.play("20 shod: where it is there is a SHOP", ROW + "shop(0,1,6)=0; stock(0,2,1)=0; shod(0,0)=19; shod(0,2)=1; shod(0,3)=2; shop(0,1,4)=1; shod(0,0)=19; shod(0,2)=0; shod(0,3)=2; shop(0,1,3)=1; shod(0,0)=18; shod(0,1)=10; shop(0,2,5)=1; shod(0,0)=13; shod(0,1)=4; shod(0,2)=0; shod(0,3)=1");
+        SCRIPT.play("20 shod: the second TOWN is a, the first of all", "shop(1,1,0)=0; shop(0,2,0)=0; stock(0,0,1)=0; stock(1,0,1)=0; road(0,1,1,0)=0; person(0,0,0,0,0)=1; shod(0,0)=2; shod(0,2)=0; shod(0,3)=1; day Ab; done()=1; shod(0,0)=1; shod(0,1)=1; shod(0,2)=1; shod(0,3)=0");
         SCRIPT.play("20 shod: of several the first TOWN, then the second", """
                 towns(6)=4; shop(1,1,1)=0; shop(2,1,1)=0; shop(4,2,1)=0; shop(5,2,1)=0; stock(1,0,1)=0; stock(2,0,1)=0; stock(4,0,1)=0; stock(5,0,1)=0; person(0,0,0,0,9)=1
                 road(0,1,1,0)=0; road(0,2,1,0)=0; road(0,4,1,0)=0; road(0,5,1,0)=0; shod(0,0)=6; shod(0,2)=1; shod(0,3)=4
@@ -142,6 +144,9 @@ public final class EdgesOfWaysTest {
         SCRIPT.play("22 together: x and y may be one TOWN", ROW + "together(1,1,1,0)=4; together(1,1,1,1)=0; together(1,1,1,2)=0; together(1,0,0,0)=0");
         SCRIPT.play("22 together: NONE, there is no way to one of them", ROW + "together(1,3,1,0)=NONE; together(1,1,3,1)=NONE; together(1,3,3,2)=NONE; person(1,3,0,0,0)=2; together(3,3,1,0)=4; together(3,3,1,1)=1; together(3,3,1,2)=0; together(2,3,3,0)=0; together(2,3,1,0)=NONE");
         SCRIPT.play("22 together: FAR of who does not LIMP", ROW + "road(0,1,2,1)=2; together(1,1,1,0)=NONE; road(0,1,2,2)=2; together(1,1,1,0)=4; day AbA+; done()=2; state(0,5)=1; together(1,1,1,0)=4");
+        SCRIPT.play("22 together: FAR of who does not LIMP, from x to y", "road(0,1,1,0)=0; road(0,2,1,0)=0; road(1,2,1,1)=0; person(0,0,0,0,0)=1; together(1,1,2,0)=4; road(1,2,1,2)=1; together(1,1,2,0)=3");
+        SCRIPT.play("22 together: FAR of who does not LIMP, of two", "road(0,1,1,1)=0; road(2,3,1,0)=0; person(0,0,0,0,0)=1; person(3,3,0,0,0)=2; together(9,1,3,0)=NONE; together(9,3,1,0)=NONE; road(0,1,1,2)=1; together(9,1,3,0)=2; together(9,3,1,0)=2; together(9,1,2,0)=4; road(2,3,1,1)=1; together(9,1,2,0)=NONE; together(9,2,1,0)=NONE");
+        SCRIPT.play("22 together: NONE for all, behind an answer too", ROW + "together(1,1,2,0)=10; together(1,1,2,1)=0; together(1,3,1,0)=NONE; together(1,1,2,1)=0; together(1,3,1,1)=NONE; together(1,1,2,2)=0; together(1,3,1,2)=NONE");
         SCRIPT.play("22 together: from HOME, not from where it is", ROW + "day AbAc; done()=2; together(1,1,2,0)=10");
         SCRIPT.play("22 together: the longest", SIX + "together(8,5,5,0)=90; together(8,5,0,0)=90; together(8,0,5,0)=90");
     }
@@ -184,6 +189,10 @@ public final class EdgesOfWaysTest {
         SCRIPT.play("24 pairs: what is 0 or 1", "pairs(0,1,0,-1)=OUTSIDE; pairs(0,1,0,2)=OUTSIDE; pairs(0,1,0,2147483647)=OUTSIDE");
         SCRIPT.play("24 pairs: both are one, or there is no such TOWN", "pairs(0,0,0,0)=UNKNOWN; pairs(3,3,4,1)=UNKNOWN; pairs(-1,0,0,0)=UNKNOWN; pairs(0,-1,0,0)=UNKNOWN; pairs(4,0,0,0)=UNKNOWN; pairs(0,4,0,0)=UNKNOWN; pairs(3,0,0,0)=0");
         SCRIPT.play("24 pairs: UNKNOWN goes before OUTSIDE", "pairs(0,0,5,0)=UNKNOWN; pairs(4,0,0,2)=UNKNOWN; pairs(0,-1,-1,-1)=UNKNOWN; pairs(0,1,5,2)=OUTSIDE");
+        SCRIPT.play("24 pairs: each SIZE goes with its own and the next one", """
+                stock(0,0,2)=0; stock(0,1,2)=0; stock(0,2,2)=0; stock(0,3,2)=0; stock(0,4,2)=0; stock(1,0,1)=0; stock(1,1,2)=0; stock(1,2,2)=0; stock(1,3,2)=0; stock(1,4,2)=0
+                pairs(0,1,1,0)=9; pairs(0,1,1,1)=1; pairs(1,0,1,0)=9; pairs(0,1,0,0)=9; stock(1,0,0)=1; stock(1,4,3)=2; pairs(0,1,1,0)=9; pairs(0,1,0,0)=8; pairs(0,1,0,1)=3
+                """);
         SCRIPT.play("24 pairs: whatever their SHOPS sell", "stock(0,0,1)=0; stock(1,0,1)=0; pairs(0,1,0,0)=1; shop(0,2,1)=0; shop(1,1,1)=0; pairs(0,1,0,0)=1; shop(0,1,1)=2; shop(1,2,1)=1; pairs(0,1,0,0)=1");
         SCRIPT.play("24 pairs: the most, though the nearest would be fewer", "stock(0,1,1)=0; stock(0,2,1)=0; stock(1,0,1)=0; stock(1,1,1)=0; pairs(0,1,1,0)=2; pairs(1,0,1,0)=2; pairs(0,1,0,0)=1; pairs(0,1,0,1)=2; stock(0,4,1)=0; pairs(0,1,1,0)=2; pairs(0,1,1,1)=1");
     }
