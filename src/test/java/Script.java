@@ -86,7 +86,7 @@ final class Script {
         }
     }
 
-    private static long numberOf(String due) {
+    static long numberOf(String due) {
         switch (due) {
             case "NONE": return -6;
             case "UNKNOWN": return -1;
